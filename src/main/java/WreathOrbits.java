@@ -855,7 +855,7 @@ public final class WreathOrbits {
 
     /** Widths for those about one door, such that no two in one yard are as wide. */
     private static final class Tints {
-        /** For each person, those who come into its yard, as bits. */
+        /** For each person, those ahead of it who come into its yard, as bits. */
         private final int[] clashes = new int[MOST_PEOPLE];
         private final int[] tint = new int[MOST_PEOPLE];
         private int people = 0;
@@ -875,40 +875,40 @@ public final class WreathOrbits {
                 town.goRound();
             }
             for (int limit = 0; limit < MOST_PEOPLE; limit++) {
-                if (paint(0, 0, limit)) {
+                if (paint(this, 0, 0, limit)) {
                     return limit;
                 }
             }
             // A tint for each person is always enough.
-            paint(0, 0, MOST_PEOPLE);
+            paint(this, 0, 0, MOST_PEOPLE);
             return MOST_PEOPLE;
         }
 
         private void markClashes(Town town) {
             for (int p = 0; p < people; p++) {
-                for (int q = 0; q < people; q++) {
-                    if (q != p && town.between(p, q) != NEITHER) {
+                for (int q = 0; q < p; q++) {
+                    if (town.between(p, q) != NEITHER) {
                         clashes[p] |= 1 << q;
                     }
                 }
             }
         }
 
-        /** Paints person p and those behind it with tints up to a limit; goes no deeper than there are people. */
-        private boolean paint(int p, int used, int limit) {
-            if (p >= people) {
+        /** Paints person p and those behind it with tints up to a limit, no deeper than there are people. */
+        private static boolean paint(Tints way, int p, int used, int limit) {
+            if (p >= way.people) {
                 return true;
             }
-            if ((members & (1 << p)) == 0) {
-                tint[p] = NONE;
-                return paint(p + 1, used, limit);
+            if ((way.members & (1 << p)) == 0) {
+                way.tint[p] = NONE;
+                return paint(way, p + 1, used, limit);
             }
             // A tint that is new bears the next number, so one above those used is enough.
             int highest = Math.min(used + 1, limit);
             for (int t = 1; t <= highest; t++) {
-                if (isFree(p, t)) {
-                    tint[p] = t;
-                    if (paint(p + 1, Math.max(used, t), limit)) {
+                if (way.isFree(p, t)) {
+                    way.tint[p] = t;
+                    if (paint(way, p + 1, Math.max(used, t), limit)) {
                         return true;
                     }
                 }
@@ -916,6 +916,7 @@ public final class WreathOrbits {
             return false;
         }
 
+        /** Whether nobody painted ahead of p who comes into its yard bears that tint. */
         private boolean isFree(int p, int t) {
             for (int q = 0; q < p; q++) {
                 if (tint[q] == t && (clashes[p] & (1 << q)) != 0) {

@@ -40,9 +40,18 @@ public final class ChancesTest {
     y.pass(1);
     // On day 1 one that is mourning stays: it is in 1 and so is 3.
     chance("mourning from day 1 on", y, new int[] {0, 3, 1, 4}, 1, 1);
+    // Days 1, 2 and 3: one that drops in goes 1, 1 and 2.
+    chance("dropping in from day 1 on, 4 yards", droppingInOnDay1(), new int[] {0, 1, 3, 5}, 1, 8);
+    chance("dropping in from day 1 on, 2 yards", droppingInOnDay1(), new int[] {0, 2, 3, 5}, 1, 4);
     int[][] bad = {{0, 0, 1, 1, 0}, {-1, 0, 1, 1, 0}, {0, -1, 1, 1, 0}, {6, 0, 1, 1, 0}, {0, 6, 1, 1, 0}, {0, 1, -1, 1, 0}, {0, 1, 8, 1, 0},
         {0, 1, 1, -1, 0}, {0, 1, 1, 11, 0}, {0, 1, 1, 1, -1}, {0, 1, 1, 1, 2}, {MIN, 1, 1, 1, 0}, {0, MAX, 1, 1, 0}, {0, 1, MAX, 1, 0}, {0, 1, 1, MIN, 0}, {0, 1, 1, 1, MAX}};
     for (int[] b : bad) due.is("likely(" + b[0] + ", " + b[1] + ", " + b[2] + ", " + b[3] + ", " + b[4] + ")", y.likely(b[0], b[1], b[2], b[3], b[4]), BAD);
+  }
+
+  private static WreathOrbits droppingInOnDay1() {
+    WreathOrbits x = Due.town("p3,0,1,10,1;p0,0,1,4,0;p0,0,1,2,0;");
+    x.pass(1);
+    return x;
   }
 
   private static void promise29() {
@@ -56,6 +65,11 @@ public final class ChancesTest {
       x.pass(start + 1);
       x.off(start);
     }
+    WreathOrbits lone = Due.town("p3,2,1,5,4;");
+    for (int z = 0; z < 300; z++) playSeason(lone, z, 7);
+    // Two who stay in one yard at one door meet by their widths alone.
+    WreathOrbits two = Due.town("p0,0,1,0,0;p0,0,1,0,0;");
+    for (int z = 0; z < 1000; z++) playSeason(two, 3 * z, 40);
     due.same("season() on a new object", Due.state(seasoned()), before);
     int[][] bad = {{-1, 1, 0}, {10000, 1, 0}, {0, 0, 0}, {0, 61, 0}, {0, 1, -1}, {0, 1, 3}, {MIN, 1, 0}, {0, MAX, 0}, {0, 1, MIN}};
     for (int[] b : bad) due.is("season(" + b[0] + ", " + b[1] + ", " + b[2] + ")", x.season(b[0], b[1], b[2]), BAD);

@@ -50,6 +50,12 @@ public final class ComingTest {
     // With a pace of 0, one that drops in goes a yard on days 0, 3, 6, ..
     x = Due.town("p3,0,1,0,0;p0,0,1,7,0;");
     due.is("first() behind 19 days", x.first(0, 1), 19);
+    due.is("first() behind 60 days", Due.town("p1,0,1,0,11;p3,0,1,10,11;").first(0, 1), 60);
+    x = Due.town("p1,0,1,0,1;p3,0,1,11,0;");
+    stayTill(2, x);
+    due.is("first() behind 61 days", x.first(0, 1), NONE);
+    x.pass(1);
+    due.is("first() behind 60 days, a day later", x.first(0, 1), 60);
     x = Due.town("p3,0,1,0,4;p0,0,1,8,4;p0,0,1,9,4;");
     due.is("gains 8 yards", x.first(0, 1), 22);
     due.is("gains 9 yards", x.first(0, 2), 25);
@@ -74,6 +80,15 @@ public final class ComingTest {
             due.is("all() by first()", x.all(n), 1);
           }
         }
+  }
+
+  /** Days go by while both are broken off, so that they stay in their yards. */
+  private static void stayTill(int day, WreathOrbits x) {
+    x.off(0);
+    x.off(1);
+    x.pass(day);
+    x.weave(0, 0, 1);
+    x.weave(1, 0, 1);
   }
 
   private static WreathOrbits lastDay(String text) {
@@ -126,6 +141,7 @@ public final class ComingTest {
     due.is("shy(1), its own width is free", x.shy(1), 1);
     due.is("shy(5), alone", x.shy(5), 1);
     due.is("shy(6), who is apart", x.shy(6), 1);
+    due.is("shy(1), whom 0 meets", Due.town("p0,0,1,0,0;p0,0,5,0,0;").shy(1), 2);
     x.off(1);
     due.is("shy(0), 1 broken off", x.shy(0), 1);
     due.is("shy(1), broken off", x.shy(1), NO);
@@ -167,6 +183,14 @@ public final class ComingTest {
     due.is("as wide now or not, no matter", x.spread(0, -1), 2);
     x.weave(0, 3, 1);
     due.is("at another door", x.spread(0, -1), 1);
+    // What was asked ahead leaves nothing behind.
+    x = Due.town("p0,0,1,0,0;p0,0,1,0,0;p0,0,1,1,0;");
+    due.is("two in one yard", x.spread(0, -1), 2);
+    x.pace(1, 1);
+    x.pass(2);
+    x.pace(1, 0);
+    due.is("all apart", x.spread(0, -1), 1);
+    due.is("all apart: 1", x.spread(0, 1), 1);
   }
 
   /**

@@ -132,7 +132,11 @@ public final class TownsTest {
     due.is("laid: person(2, 0), none more", x.person(2, 0), WreathOrbits.BAD);
     x.pass(7);
     x.off(1);
+    x.weave(0, 1, 1);
+    x.weave(1, 1, 1);
+    x.all(60);
     due.is("lay() once more", x.lay(), 2);
+    due.is("laid once more: meetings", x.count(5), 0);
     due.is("laid once more: day", x.count(1), 0);
     due.is("laid once more: yard", x.person(0, 3), 10);
     due.is("laid once more: door", x.person(1, 1), 5);
