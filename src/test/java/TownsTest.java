@@ -101,6 +101,10 @@ public final class TownsTest {
     x.wipe();
     Due.write(x, "p0,0,1");
     due.is("fault() in front of wiped letters", x.fault(), 0);
+    Due.write(x, ",0,0");
+    due.is("fault() in front of a wiped ;", x.fault(), 0);
+    x.write(';');
+    due.is("fault() with a ; of its own", x.fault(), WreathOrbits.NONE);
   }
 
   private static void promise5() {
