@@ -16,11 +16,28 @@ final class Calls {
     return (String) FACE[i][0];
   }
 
+  static int arguments(int i) {
+    return (FACE[i].length - 1) / 2;
+  }
+
+  static int least(int i, int k) {
+    return (Integer) FACE[i][2 * k + 1];
+  }
+
+  static int most(int i, int k) {
+    return (Integer) FACE[i][2 * k + 2];
+  }
+
+  /** Whether an argument is a person: those alone end with 6. */
+  static boolean isPerson(int i, int k) {
+    return most(i, k) == 6;
+  }
+
   /** Arguments for a call: most within what is told, some at or just outside its bounds, some far off. */
   static int[] draw(int i, Random r) {
-    int[] a = new int[(FACE[i].length - 1) / 2];
+    int[] a = new int[arguments(i)];
     for (int k = 0; k < a.length; k++) {
-      int least = (Integer) FACE[i][2 * k + 1], most = (Integer) FACE[i][2 * k + 2];
+      int least = least(i, k), most = most(i, k);
       int how = r.nextInt(60);
       if (how == 0) a[k] = least - 1;
       else if (how == 1) a[k] = most + 1;

@@ -55,69 +55,53 @@ public final class ChancesTest {
   }
 
   private static void promise29() {
-    WreathOrbits x = new WreathOrbits();
-    String before = Due.state(x);
+    String before = Due.state(new WreathOrbits());
     int[] draws = {0, 1, 7, 77, 500, 1234, 4321, 9998, 9999};
     int[] days = {1, 2, 9, 30, 59, 60};
-    for (int start = 0; start < 3; start++) {
+    for (int start = 0; start < 3; start++)
       for (int z : draws)
-        for (int n : days) playSeason(x, z, n);
-      x.pass(start + 1);
-      x.off(start);
-    }
-    WreathOrbits lone = Due.town("p3,2,1,5,4;");
-    for (int z = 0; z < 300; z++) playSeason(lone, z, 7);
+        for (int n : days) playSeason("p0,0,3,0,1;p1,0,3,6,2;p2,0,3,4,5;p3,1,2,9,1;p0,1,2,3,7;p2,1,5,3,1;p1,4,1,0,0;", start, z, n);
+    for (int z = 0; z < 300; z++) playSeason("p3,2,1,5,4;", 0, z, 7);
     // Two who stay in one yard at one door meet by their widths alone.
-    WreathOrbits two = Due.town("p0,0,1,0,0;p0,0,1,0,0;");
-    for (int z = 0; z < 1000; z++) playSeason(two, 3 * z, 40);
-    due.same("season() on a new object", Due.state(seasoned()), before);
+    for (int z = 0; z < 1000; z++) playSeason("p0,0,1,0,0;p0,0,1,0,0;", 0, 3 * z, 40);
+    WreathOrbits x = new WreathOrbits();
+    x.season(5, 60, 0);
+    due.same("season() on a new object", Due.state(x), before);
     int[][] bad = {{-1, 1, 0}, {10000, 1, 0}, {0, 0, 0}, {0, 61, 0}, {0, 1, -1}, {0, 1, 3}, {MIN, 1, 0}, {0, MAX, 0}, {0, 1, MIN}};
     for (int[] b : bad) due.is("season(" + b[0] + ", " + b[1] + ", " + b[2] + ")", x.season(b[0], b[1], b[2]), BAD);
   }
 
-  private static WreathOrbits seasoned() {
-    WreathOrbits x = new WreathOrbits();
-    x.season(5, 60, 0);
-    return x;
-  }
-
-  /** Plays the season by acts on a twin of the town, whose answers are then due. */
-  private static void playSeason(WreathOrbits x, int z, int n) {
-    WreathOrbits twin = twin(x);
+  /** Plays the season by acts on another object with the same town, whose answers are then due. */
+  private static void playSeason(String text, int start, int z, int n) {
+    WreathOrbits played = started(text, start);
+    int people = played.count(0);
     int meetings = 0;
     for (int i = 0; i < n; i++) {
       long t = 7919L * z + 6151L * i + 1;
       int draw = (int) ((t * t) % 65521) / 2;
-      int p = draw % twin.count(0);
+      int p = draw % people;
       int what = (draw / 8) % 6;
-      if (what == 0) twin.weave(p, (draw / 64) % 6, (draw / 512) % 9 + 1);
-      if (what == 1) twin.off(p);
-      if (what == 2) twin.pace(p, (draw / 64) % 12);
-      meetings += twin.pass(1);
+      if (what == 0) played.weave(p, (draw / 64) % 6, (draw / 512) % 9 + 1);
+      if (what == 1) played.off(p);
+      if (what == 2) played.pace(p, (draw / 64) % 12);
+      meetings += played.pass(1);
     }
     int yards = 0;
-    for (int p = 0; p < twin.count(0); p++) yards += twin.person(p, 3);
+    for (int p = 0; p < people; p++) yards += played.person(p, 3);
+    WreathOrbits x = started(text, start);
     String call = "season(" + z + ", " + n + ") on day " + x.count(1);
     due.is(call + ": meetings", x.season(z, n, 0), meetings);
-    due.is(call + ": about a door", x.season(z, n, 1), twin.count(2));
+    due.is(call + ": about a door", x.season(z, n, 1), played.count(2));
     due.is(call + ": yards", x.season(z, n, 2), yards);
   }
 
-  /** Another object with the same day and people (those who were broken off are so again). */
-  private static WreathOrbits twin(WreathOrbits x) {
-    StringBuilder text = new StringBuilder();
-    int day = x.count(1);
-    for (int p = 0; p < x.count(0); p++) {
-      int door = x.person(p, 1), width = x.person(p, 2);
-      text.append('p').append(x.person(p, 0)).append(',').append(Math.max(0, door)).append(',').append(Math.max(1, width));
-      text.append(',').append(x.person(p, 3)).append(',').append(x.person(p, 4)).append(';');
+  /** A town in which some days have gone by, and as many people are broken off. */
+  private static WreathOrbits started(String text, int start) {
+    WreathOrbits x = Due.town(text);
+    for (int p = 0; p < start; p++) {
+      x.pass(p + 1);
+      x.off(p);
     }
-    WreathOrbits twin = Due.town(text.toString());
-    // All are broken off while the days go by, so that they stay in their yards.
-    for (int p = 0; p < x.count(0); p++) twin.off(p);
-    if (day > 0) twin.pass(day);
-    for (int p = 0; p < x.count(0); p++)
-      if (x.person(p, 1) >= 0) twin.weave(p, x.person(p, 1), x.person(p, 2));
-    return twin;
+    return x;
   }
 }

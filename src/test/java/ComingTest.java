@@ -17,16 +17,18 @@ public final class ComingTest {
 
   private static void promise14() {
     WreathOrbits x = new WreathOrbits();
-    x.pass(1);
-    x.off(4);
-    String before = Due.state(x);
-    int[][] asked = new int[61][7];
-    for (int n = 0; n <= 60; n++)
-      for (int p = 0; p < 7; p++) asked[n][p] = x.behind(n, p);
-    due.same("behind()", Due.state(x), before);
-    for (int n = 0; n <= 60; n++) {
-      for (int p = 0; p < 7; p++) due.is("behind(" + n + ", " + p + ")", asked[n][p], x.person(p, 3));
+    for (int p = 0; p < 7; p++) {
+      x = new WreathOrbits();
       x.pass(1);
+      x.off(4);
+      String before = Due.state(x);
+      int[] asked = new int[61];
+      for (int n = 0; n <= 60; n++) asked[n] = x.behind(n, p);
+      due.same("behind()", Due.state(x), before);
+      for (int n = 0; n <= 60; n++) {
+        due.is("behind(" + n + ", " + p + ")", asked[n], x.person(p, 3));
+        x.pass(1);
+      }
     }
     int[][] bad = {{-1, 0}, {61, 0}, {0, -1}, {0, 7}, {MIN, 0}, {MAX, 0}, {0, MIN}, {0, MAX}};
     for (int[] b : bad) due.is("behind(" + b[0] + ", " + b[1] + ")", x.behind(b[0], b[1]), BAD);
