@@ -1,3 +1,5 @@
+import java.util.Arrays;
+
 /** Bounds that hold for all calls: how many they are, which numbers are told, what a refused one answers. */
 final class BoundsOfCalls {
   private static final int BAD = Bounds.BAD, NO = Bounds.NO, FULL = Bounds.FULL, NONE = Bounds.NONE;
@@ -74,7 +76,7 @@ final class BoundsOfCalls {
     arguments[k] = number;
     boolean alike = k < 2 && arguments.length >= 2 && Calls.isPerson(call, 0) && Calls.isPerson(call, 1) && arguments[0] == arguments[1];
     if (alike) arguments[1 - k] = number == 0 ? 1 : 0;
-    b.equal(Calls.name(call) + java.util.Arrays.toString(arguments) + " is BAD", r.make(Calls.name(call), arguments) == BAD ? 1 : 0, 0);
+    b.equal(Calls.name(call) + Arrays.toString(arguments) + " is BAD", r.make(Calls.name(call), arguments) == BAD ? 1 : 0, 0);
   }
 
   private void numbersThatAreTold() {
