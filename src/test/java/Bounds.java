@@ -1,6 +1,6 @@
 import java.io.IOException;
 
-/** What the tests of the document's bounds share: the sentence that is tested, and runs of calls for it. */
+/** What the tests of the document's sentences and bounds share: the sentence that is tested, and runs of calls for it. */
 final class Bounds {
   static final int BAD = WreathOrbits.BAD, NO = WreathOrbits.NO, FULL = WreathOrbits.FULL, NONE = WreathOrbits.NONE;
   static final int MIN = Integer.MIN_VALUE, MAX = Integer.MAX_VALUE;
@@ -46,7 +46,7 @@ final class Bounds {
   }
 
   void end() {
-    sentence = "every sentence that names a bound has a test";
+    sentence = "every sentence has a test";
     for (String line : sentences.left()) equal("not so: " + line, 1, 0);
     due.end();
   }

@@ -1,6 +1,6 @@
 import java.io.IOException;
 
-/** A test for each sentence of the document that names a bound: what is last, one more, empty, full, refused. */
+/** A test for each sentence of the document: what is ordinary, last, one more, empty, full, refused. */
 public final class BoundsTest {
   public static void main(String[] args) throws IOException {
     Bounds bounds = new Bounds();

@@ -21,7 +21,9 @@ public final class LanguageTest {
   public static void main(String[] args) throws IOException {
     face();
     nested();
-    source(Files.readString(Path.of("src/main/java/WreathOrbits.java")));
+    String source = Files.readString(Path.of("src/main/java/WreathOrbits.java"));
+    members(source);
+    source(source);
     due.end();
   }
 
@@ -51,6 +53,14 @@ public final class LanguageTest {
     for (Field f : c.getDeclaredFields())
       rule("field " + f.getName(), constants.contains(f.getName()) ? Modifier.isPublic(f.getModifiers()) : Modifier.isPrivate(f.getModifiers()));
     fields(c);
+  }
+
+  /** Rule 1: each member stands in the source as in the document, its parameters' names and order, too. */
+  private static void members(String source) {
+    List<String> members = Face.members();
+    due.is("members of the document's face", members.size(), FACE.size() + 2);
+    for (String member : members) rule(member, source.contains("\n    " + member + (member.endsWith(")") ? " {\n" : ";\n")));
+    rule("the class's own line", source.contains("\npublic final class WreathOrbits {\n"));
   }
 
   /** Rules 2, 5, 11: static classes inside, few of them, with few fields and short rows of parameters. */

@@ -7,13 +7,11 @@ import java.util.regex.Matcher;
 import java.util.regex.Pattern;
 
 /**
- * The document's sentences, and which of them have a test: a quote must stand in the document, and what
- * is never quoted may name no bound, so that a sentence without a test of its own is told.
+ * The document's sentences, and which of them have a test: a quote must stand in the document, and nothing
+ * may be left there that is never quoted, so that a sentence without a test of its own is told.
  */
 final class Sentences {
   private static final Path DOCUMENT = Path.of("../shared/DOC.md");
-  private static final Pattern BOUND =
-      Pattern.compile("\\d|\\b(BAD|NO|NONE|FULL|most|least|empty|first|last|lowest|fewest|none|nothing|nobody|even|alike)\\b");
   /** What stands in the document beside its sentences: headings, the marks of its parts, the calls' own lines. */
   private static final Pattern BESIDE = Pattern.compile("## [^\n]*|======== \\d|```[a-z]*|`[^`\n]*`:|Ahead of the calls [^\n]*");
 
@@ -42,13 +40,13 @@ final class Sentences {
     return quoteWithin(start, end, sentence);
   }
 
-  /** The lines of the document in which a bound is named that no test quotes. */
+  /** What is left of the document's lines that no test quotes. */
   List<String> left() {
     StringBuilder rest = new StringBuilder();
     for (int i = 0; i < quoted.length; i++) rest.append(quoted[i] && document.charAt(i) != '\n' ? ' ' : document.charAt(i));
     List<String> left = new ArrayList<>();
     for (String line : rest.toString().split("\n"))
-      if (BOUND.matcher(line).find()) left.add(line.trim());
+      if (!line.isBlank()) left.add(line.trim());
     return left;
   }
 
